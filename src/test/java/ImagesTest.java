@@ -21,6 +21,9 @@ public final class ImagesTest {
         for (int round = 0; round < 2; round++) {
             x.go(10);
             x.person(4);
+            x.change(2, 1, 9);
+            x.change(2, 2, 9);
+            x.change(2, 7, 9);
             x.change(0, 0, 3);
             x.change(0, 1, 1);
             x.change(1, 5, 9);
@@ -47,7 +50,9 @@ public final class ImagesTest {
             check.due("sheets stay", x.judge(1), 1);
         }
         check.due("a new one is as at first", x.person(0), 2);
-        check.due("a new one is as at first", x.of(2, 0) + x.of(2, 1), 3);
+        for (int what = 0; what <= 8; what++) {
+            check.due("a new one is as at first", x.of(2, what), what == 1 ? 3 : 0);
+        }
         x.go(1);
         x.image();
         x.go(1);

@@ -13,6 +13,7 @@ public final class MinutesTest {
         filled();
         round();
         mostWater();
+        lastMinute();
         check.end();
     }
 
@@ -103,6 +104,8 @@ public final class MinutesTest {
         check.due("too far", x.view(0, 0, 201), Check.BEYOND);
         check.due("too far", x.view(0, 0, -1), Check.BEYOND);
         check.due("nothing changes", x.of(2, 2), 0);
+        x.change(0, 2, 4);
+        check.due("as it is now", x.view(2, 0, 1), 4);
     }
 
     private static void dry() {
@@ -166,5 +169,34 @@ public final class MinutesTest {
             x.write(0, i, 999999);
         }
         check.due("full stays full", x.fits(0, 0), 19);
+    }
+
+    /** No 512 calls lead there, so nothing is promised of it; the class keeps to the words all the same. */
+    private static void lastMinute() {
+        PumpTalk x = Check.square("master thinks 5;deaf;wed thinks 1");
+        for (int i = 0; i < 999; i++) {
+            x.go(100);
+        }
+        check.due("99900", x.now(0), 99900);
+        check.due("above 99999", x.go(100), -1000005);
+        check.due("99999", x.go(99), 0);
+        check.due("above 99999", x.go(1), -1000005);
+        check.due("above 99999", x.quarrels(1), -1000005);
+        check.due("beyond before state", x.go(0), Check.BEYOND);
+        check.due("beyond before state", x.quarrels(21), Check.BEYOND);
+        check.due("three findings of state", x.status(4), 3);
+        check.due("no draws", x.count(6), 1);
+        x.pair(0, 1);
+        // The minute stays odd, so that the master comes nearer each time.
+        check.due("view ahead", x.view(0, 0, 5), 0);
+        check.due("dry", x.dry(), 5);
+        check.due("undone", x.image() + x.undo(), 100000);
+        PumpTalk y = new PumpTalk();
+        for (int i = 0; i < 999; i++) {
+            y.go(100);
+        }
+        y.go(79);
+        check.due("99979 and 20", y.quarrels(20), 0);
+        check.due("99999", y.now(0), 99999);
     }
 }

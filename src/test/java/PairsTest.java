@@ -72,6 +72,8 @@ public final class PairsTest {
         check.due("the least of like ones", x.subjectFor(0, 1, 1), 3);
         check.due("told the other way", x.subjectFor(1, 0, 1), 3);
         check.due("in no minutes", x.subjectFor(0, 1, 0), 0);
+        x.change(0, 2 + 5, 3);
+        check.due("as it is now", x.subjectFor(0, 1, 1), 5);
         check.due("the subject stays", x.now(2), 4);
         check.due("one and the same", x.subjectFor(0, 0, 1), Check.BEYOND);
         check.due("nobody", x.subjectFor(0, 3, 1), Check.BEYOND);
@@ -110,6 +112,7 @@ public final class PairsTest {
             check.due("of two such ways the first", x.matchOf(person, 1), mates[person]);
         }
         check.due("nothing changes", x.of(1, 2) + x.now(0) + x.now(3), 4);
+        check.due("asked without matched()", Check.square("deaf;deaf;deaf thinks 1").matchOf(0, 1), 2);
         check.due("no minutes", x.matched(0), 0);
         check.due("no minutes", x.matchOf(0, 0), 1);
         check.due("no minutes", x.matchOf(3, 0), 2);
@@ -146,6 +149,7 @@ public final class PairsTest {
         x.change(1, 2, 0);
         check.due("of two the least", x.viewFor(0, 1, 0, 1), -9);
         check.due("for a deaf one any but 0", x.viewFor(1, 2, 0, 1), -9);
+        check.due("in no minutes", x.viewFor(0, 1, 0, 0), -9);
         check.due("the view stays", x.of(0, 2), 1);
         check.due("one and the same", x.viewFor(0, 0, 0, 1), Check.BEYOND);
         check.due("nobody", x.viewFor(3, 0, 0, 1), Check.BEYOND);
@@ -165,6 +169,8 @@ public final class PairsTest {
         check.due("voice", x.voiceFor(0, 1, 161, 10), Check.NONE);
         check.due("who agree", x.voiceFor(1, 2, 1, 60), Check.NONE);
         check.due("who agree", x.voiceFor(1, 2, 0, 60), 0);
+        check.due("in no minutes", x.voiceFor(0, 1, 0, 0), 0);
+        check.due("in no minutes", x.voiceFor(0, 1, 1, 0), Check.NONE);
         check.due("the voice stays", x.of(0, 1), 3);
         check.due("v", x.voiceFor(0, 1, 9999, 60), Check.NONE);
         check.due("v", x.voiceFor(0, 1, 10000, 60), Check.BEYOND);

@@ -64,6 +64,9 @@ public final class SheetsTest {
         x.copy(0, 39, 1, 0, 1);
         x.person(0);
         check.due("number 39 is 0 again", x.judge(1), 0);
+        x.write(1, 0, 7);
+        x.sheet(1, 8, 1);
+        check.due("number 0 is 0 again", x.judge(1), 0);
         check.due("missing", x.sheet(0, 0, 40), 0);
         check.due("missing", x.write(0, 0, 0), Check.MISSING);
     }

@@ -73,6 +73,7 @@ public final class TextsTest {
             "wed thinks 1 -10", "wed thinks 1 2 3 4 5 6 7", "wed thinks 1 2 3 4 5 6 -7", "wed thinks 1 voice 2",
             "wed thinks voice 1", "weds", "WED", "wed:", "wed;;wed", "5", "-", "voice 3", "thinks 1", "wed wed",
             "wed voice 1 thinks 1 thinks 2", "wed;pair 0 2;pair 3 0", "wed\ton", "on 3 ,", "wed thinks 1 - 2 -",
+            "ped", "wez", "wed thinksz", "wed thinkz", "ob 1", "wed vo1ce 1",
             "pair 00000000000000000000000000001 00"};
         int[] faults = {0, 3, 0, 2, 3, 3, 3, 5, 7, 5, 3,
             3, 3, 4, 6, 7, 7, 7, 5, 6,
@@ -81,6 +82,7 @@ public final class TextsTest {
             14, 23, 23, 13,
             11, 0, 0, 3, 4, 0, 0, 0, 0, 4,
             21, 18, 3, 5, 18,
+            0, 0, 4, 4, 0, 4,
             -1};
         for (int i = 0; i < texts.length; i++) {
             PumpTalk x = new PumpTalk();
