@@ -90,6 +90,7 @@ public final class MinutesTest {
         PumpTalk x = Check.square("deaf thinks 1;deaf;wed;pair 0 1");
         check.due("ahead(0)", x.ahead(0), 0);
         check.due("ahead(200)", x.ahead(200), 2000);
+        check.due("ahead(1), from now on", x.ahead(1), 10);
         check.due("ahead(201)", x.ahead(201), Check.BEYOND);
         check.due("ahead(-1)", x.ahead(-1), Check.BEYOND);
         check.due("nothing changes", x.now(0) + x.now(1), 0);

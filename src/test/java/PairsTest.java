@@ -112,11 +112,18 @@ public final class PairsTest {
             check.due("of two such ways the first", x.matchOf(person, 1), mates[person]);
         }
         check.due("nothing changes", x.of(1, 2) + x.now(0) + x.now(3), 4);
+        // Eight: three of them think otherwise than the rest, so that three pairs give.
+        x = Check.square("deaf thinks 1;deaf thinks 1;deaf;deaf;deaf;deaf;deaf voice 9;deaf thinks 1");
+        check.due("three pairs", x.matched(1), 10 + 10 + 16);
+        int[] eight = {2, 3, 0, 1, 5, 4, 7, 6};
+        for (int person = 0; person < 8; person++) {
+            check.due("of many such ways the first", x.matchOf(person, 1), eight[person]);
+        }
         check.due("asked without matched()", Check.square("deaf;deaf;deaf thinks 1").matchOf(0, 1), 2);
         check.due("no minutes", x.matched(0), 0);
         check.due("no minutes", x.matchOf(0, 0), 1);
         check.due("no minutes", x.matchOf(3, 0), 2);
-        check.due("nobody", x.matchOf(4, 0), Check.BEYOND);
+        check.due("nobody", x.matchOf(8, 0), Check.BEYOND);
         check.due("nobody", x.matchOf(-1, 0), Check.BEYOND);
         check.due("too long", x.matchOf(0, 31), Check.BEYOND);
         check.due("too long", x.matchOf(0, -1), Check.BEYOND);
