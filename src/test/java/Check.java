@@ -4,6 +4,7 @@ final class Check {
     static final int FULL = -1000002;
     static final int KIND = -1000003;
     static final int NONE = -1000004;
+    static final int STATE = -1000005;
     static final int MISSING = -1000006;
     static final int SIZE = -1000007;
 
@@ -30,9 +31,15 @@ final class Check {
         }
     }
 
+    /** Four bytes a call, since an object is good for 512 calls. */
     static void feed(PumpTalk x, String text) {
-        for (int i = 0; i < text.length(); i++) {
-            x.feed(text.charAt(i), 1);
+        for (int i = 0; i < text.length(); i += 4) {
+            int n = Math.min(4, text.length() - i);
+            int bytes = 0;
+            for (int k = 0; k < n; k++) {
+                bytes = bytes << 8 | text.charAt(i + k);
+            }
+            x.feed(bytes, n);
         }
     }
 
