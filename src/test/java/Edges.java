@@ -106,4 +106,18 @@ final class Edges {
         Check.feed(x, "wed;on 3");
         return x;
     }
+
+    /** Three people and a minute that 512 calls can't come to: what a call promises there holds all the same. */
+    static PumpTalk late(int minute) {
+        PumpTalk x = Check.square("master thinks 5;deaf;wed thinks 1");
+        for (int i = 0; i < minute / 100; i++) {
+            x.go(100);
+        }
+        if (minute % 100 != 0) {
+            x.go(minute % 100);
+        }
+        x.pair(0, 1);
+        x.image();
+        return x;
+    }
 }

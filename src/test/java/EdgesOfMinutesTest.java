@@ -8,6 +8,7 @@ public final class EdgesOfMinutesTest {
     public static void main(String[] args) {
         goOneAndHundred();
         goBeyond();
+        goState();
         nowEachWhat();
         nowOfNobody();
         nowBeyond();
@@ -43,6 +44,21 @@ public final class EdgesOfMinutesTest {
             edges.refused("go(" + n + ")", Edges::some, x -> x.go(n), Check.BEYOND);
             edges.refused("go(" + n + ") of nobody", PumpTalk::new, x -> x.go(n), Check.BEYOND);
         }
+    }
+
+    /** STATE: MINUTE would be above 99999. */
+    private static void goState() {
+        edges.refused("99900 and 100", () -> Edges.late(99900), x -> x.go(100), Check.STATE);
+        edges.refused("99999 and 1", () -> Edges.late(99999), x -> x.go(1), Check.STATE);
+        edges.refused("BEYOND before STATE", () -> Edges.late(99999), x -> x.go(101), Check.BEYOND);
+        edges.refused("BEYOND before STATE", () -> Edges.late(99999), x -> x.go(0), Check.BEYOND);
+        PumpTalk x = Edges.late(99900);
+        x.rest();
+        check.due("99900 and 99", x.go(99), 0);
+        check.due("minute", x.now(0), 99999);
+        check.due("no finding", x.status(-1), 0);
+        // MINUTE stays 99999, odd, so that the master comes nearer each time.
+        edges.told("99999 at most", () -> Edges.late(99999), y -> y.view(0, 0, 5), 0);
     }
 
     // Promise 11: what 0 MINUTE to 5 VOICES of all together. BEYOND.

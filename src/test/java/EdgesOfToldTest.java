@@ -16,6 +16,7 @@ public final class EdgesOfToldTest {
         quarrelsOneAndTwenty();
         quarrelsAllStays();
         quarrelsBeyond();
+        quarrelsState();
         oddsNoneAndTen();
         oddsOfFewAndMany();
         oddsBeyond();
@@ -213,6 +214,18 @@ public final class EdgesOfToldTest {
             edges.refused("quarrels(" + n + ")", Edges::some, x -> x.quarrels(n), Check.BEYOND);
             edges.refused("quarrels(" + n + ") of nobody", PumpTalk::new, x -> x.quarrels(n), Check.BEYOND);
         }
+    }
+
+    /** STATE: MINUTE would be above 99999; no draw is made then. */
+    private static void quarrelsState() {
+        edges.refused("99980 and 20", () -> Edges.late(99980), x -> x.quarrels(20), Check.STATE);
+        edges.refused("99999 and 1", () -> Edges.late(99999), x -> x.quarrels(1), Check.STATE);
+        edges.refused("BEYOND before STATE", () -> Edges.late(99999), x -> x.quarrels(21), Check.BEYOND);
+        edges.refused("BEYOND before STATE", () -> Edges.late(99999), x -> x.quarrels(0), Check.BEYOND);
+        PumpTalk x = Edges.late(99980);
+        x.quarrels(19);
+        check.due("99980 and 19", x.now(0), 99999);
+        check.due("no finding", x.status(-1), 0);
     }
 
     // Promise 30: The odds that n (0 to 10) times two such draws tell two unlike ones: a fraction in lowest terms.
